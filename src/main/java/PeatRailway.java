@@ -47,19 +47,21 @@ public final class PeatRailway {
     private int keptImages;
 
     public PeatRailway() {
-        text = new InputText();
-        now = new State();
+        InputText firstText = new InputText();
+        for (int i = 0; i < FIRST_TRACK.length(); i++) {
+            firstText.append(FIRST_TRACK.charAt(i));
+        }
+        State firstState = new State();
+        firstText.layOnto(firstState);
+        firstText.wipe();
+        text = firstText;
+        now = firstState;
         trial = new State();
         history = new History();
         images = new State[IMAGES];
         for (int i = 0; i < images.length; i++) {
             images[i] = new State();
         }
-        for (int i = 0; i < FIRST_TRACK.length(); i++) {
-            text.append(FIRST_TRACK.charAt(i));
-        }
-        text.layOnto(now);
-        text.wipe();
     }
 
     // ---- text and track
@@ -546,7 +548,7 @@ public final class PeatRailway {
         int delivered;
         int lost;
         int clock;
-        /** The greatest sinking at the ends of the ticks of the latest pass; it is not kept. */
+        /** The greatest sinking at the ends of the ticks since a pass began; it is not kept. */
         int peak;
 
         State() {
@@ -559,21 +561,21 @@ public final class PeatRailway {
                 trains[t] = new Train();
             }
             settings = new int[SETTINGS];
-            for (int i = 0; i < settings.length; i++) {
+            for (int i = 0; i < settings.length && i < FIRST_VALUE.length; i++) {
                 settings[i] = FIRST_VALUE[i];
             }
         }
 
         void copyFrom(State other) {
             segmentCount = other.segmentCount;
-            for (int s = 0; s < MOST_SEGMENTS; s++) {
+            for (int s = 0; s < segments.length && s < other.segments.length; s++) {
                 segments[s].copyFrom(other.segments[s]);
             }
             trainCount = other.trainCount;
-            for (int t = 0; t < MOST_TRAINS; t++) {
+            for (int t = 0; t < trains.length && t < other.trains.length; t++) {
                 trains[t].copyFrom(other.trains[t]);
             }
-            for (int i = 0; i < SETTINGS; i++) {
+            for (int i = 0; i < settings.length && i < other.settings.length; i++) {
                 settings[i] = other.settings[i];
             }
             stock = other.stock;
@@ -635,6 +637,7 @@ public final class PeatRailway {
                     latest = here.isPassingPlace() ? s : latest;
                 }
             }
+            // The latest passing place is the works now; the way back begins there.
             for (int s = MOST_SEGMENTS - 1; s >= 0; s--) {
                 Segment here = segmentAt(s);
                 if (here != null) {
@@ -684,7 +687,6 @@ public final class PeatRailway {
             peak = 0;
             for (int i = 0; i < ticks; i++) {
                 tick();
-                peak = Math.max(peak, greatestSinking());
             }
             return delivered - before;
         }
@@ -832,6 +834,7 @@ public final class PeatRailway {
                 Segment here = segmentAt(s);
                 if (here != null) {
                     here.settle(settings[RECOVERY]);
+                    peak = Math.max(peak, here.sinking);
                 }
             }
         }
@@ -916,10 +919,9 @@ public final class PeatRailway {
         }
     }
 
-    /** The states before the latest changes: a ring, the oldest one of which is dropped first. */
+    /** The states before the latest changes, the oldest one first. */
     private static final class History {
         private final State[] states;
-        private int oldest;
         private int size;
 
         History() {
@@ -934,24 +936,31 @@ public final class PeatRailway {
         }
 
         void remember(State state) {
-            states[slot(size)].copyFrom(state);
-            if (size < HISTORY) {
+            if (size >= states.length) {
+                dropOldest();
+            }
+            if (size >= 0 && size < states.length) {
+                states[size].copyFrom(state);
                 size++;
-            } else {
-                oldest = slot(1);
             }
         }
 
         /** Makes a state what it was before the latest change, and forgets that change. */
         void restore(State state) {
-            if (size > 0) {
+            if (size > 0 && size <= states.length) {
                 size--;
-                state.copyFrom(states[slot(size)]);
+                state.copyFrom(states[size]);
             }
         }
 
-        private int slot(int age) {
-            return Math.floorMod(oldest + age, HISTORY);
+        /** The oldest one's object goes to the end, to be used for the next state. */
+        private void dropOldest() {
+            State oldest = states[0];
+            for (int i = 1; i < states.length; i++) {
+                states[i - 1] = states[i];
+            }
+            states[states.length - 1] = oldest;
+            size = states.length - 1;
         }
     }
 

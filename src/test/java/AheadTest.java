@@ -211,6 +211,27 @@ public final class AheadTest {
         Due.same(23, "bestRule(4)", x.bestRule(4), 0);
         Due.same(23, "bestRule(200)", x.bestRule(200), 0);
         Due.same(23, "the rule is still", x.setting(2), 2);
+        ruleTwoIsBest();
+    }
+
+    /** Train 0 goes up to the works, from which the trains 1 and 2 want to come down. */
+    private static void ruleTwoIsBest() {
+        PeatRailway x = Due.withTrack("0,0,0");
+        x.set(2, 2);
+        x.addTrain(1, 1);
+        x.dig(6);
+        x.run(7);
+        x.addTrain(1, 2);
+        x.addTrain(2, 2);
+        x.run(9);
+        int[] due = {1, 1, 3};
+        for (int rule = 0; rule < 3; rule++) {
+            x.keep(0);
+            x.set(2, rule);
+            Due.same(23, "bestRule(11) under rule " + rule, x.bestRule(11), 2);
+            Due.same(23, "run(11) by rule " + rule, x.run(11), due[rule]);
+            x.back(0);
+        }
     }
 
     private static void bestLoadByHand() {

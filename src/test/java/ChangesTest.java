@@ -106,6 +106,37 @@ public final class ChangesTest {
         Due.same(8, "train(3, 0) behind undo", x.train(3, 0), BAD);
         Due.same(8, "addTrain(5, 9)", x.addTrain(5, 9), 3);
         Due.same(8, "train(3, 0)", x.train(3, 0), 5);
+        addTrainInThePlaceOfAnother();
+    }
+
+    /** A new train has nothing of one that had its number before. */
+    private static void addTrainInThePlaceOfAnother() {
+        int[] ticks = {1, 2, 9, 13, 15, 16, 30};
+        for (int some : ticks) {
+            for (int way = 0; way < 3; way++) {
+                PeatRailway x = new PeatRailway();
+                x.addTrain(2, 20);
+                x.run(3);
+                x.dig(41);
+                x.run(some);
+                if (way == 0) {
+                    x.dropTrain(0);
+                } else if (way == 1) {
+                    Due.type(x, "1,2,3,4");
+                    x.layTrack();
+                } else {
+                    x.keep(0);
+                    x.dropTrain(0);
+                    x.run(1);
+                }
+                Due.same(8, "addTrain(3, 7)", x.addTrain(3, 7), 0);
+                int[] due = {3, 7, 0, 0, 0, 0, 0, 0, 0, 10};
+                for (int what = 0; what < due.length; what++) {
+                    Due.same(8, "train(0, " + what + ") of a new one", x.train(0, what),
+                            due[what]);
+                }
+            }
+        }
     }
 
     private static void dropTrain() {

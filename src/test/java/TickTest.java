@@ -3,6 +3,7 @@ public final class TickTest {
     public static void main(String[] args) {
         oneTrainThereAndBack();
         restAndSinking();
+        restByHundreds();
         sinkingOfSeveral();
         sinkingHasAGreatest();
         ordersOfTheRules();
@@ -14,6 +15,7 @@ public final class TickTest {
         oncomingIsOfThePassingPlaceAlone();
         crowded();
         crowdedCountsTrainsBetween();
+        notCrowdedOnTheWay();
         whyWithRest();
         Due.end();
     }
@@ -106,6 +108,40 @@ public final class TickTest {
         trainIs(x, 0, 0, 0, 0, 0, 0, 0);
         x.run(1);
         trainIs(x, 0, 0, 0, 0, 0, 1, 1);
+    }
+
+    /**
+     * A train comes down to the bog when that has just a given sinking: another train has sunk it
+     * before, and it rises by 1 in each tick while the limit keeps the train in the segment 1.
+     */
+    private static void restByHundreds() {
+        int[][] due = {
+            {98, 1}, {99, 1}, {100, 2}, {101, 2}, {199, 2}, {200, 3}, {201, 3}, {299, 3}, {300, 4}
+        };
+        for (int[] d : due) {
+            PeatRailway x = Due.withTrack("9,0,0");
+            x.set(1, 1);
+            x.addTrain(6, 20);
+            x.run(1);
+            for (int i = 0; i < 100 && x.segment(0, 2) < 330; i++) {
+                x.run(1);
+            }
+            x.dropTrain(0);
+            x.addTrain(1, 1);
+            x.dig(1);
+            // It loads in the first tick, unloads in the seventh and is in the segment 1 in 9.
+            x.set(0, 900);
+            x.run(10);
+            trainIs(x, 0, 1, 0, 0);
+            x.set(0, 10);
+            for (int i = 0; i < 400 && x.segment(0, 2) > d[0]; i++) {
+                x.run(1);
+            }
+            x.set(0, 900);
+            Due.same(11, "segment(0, 2)", x.segment(0, 2), d[0]);
+            x.run(1);
+            trainIs(x, 0, 0, 0, d[1]);
+        }
     }
 
     private static void sinkingOfSeveral() {
@@ -469,6 +505,31 @@ public final class TickTest {
         x.undo();
         x.dropTrain(1);
         Due.same(17, "why(2), one between and none in the passing place", x.why(2), 0);
+    }
+
+    /** Trains 0 and 1 come down to the segment 3 while train 2 is on its way up to it. */
+    private static void notCrowdedOnTheWay() {
+        PeatRailway x = Due.withTrack("0,0,0,0p,0,0");
+        x.addTrain(1, 1);
+        x.addTrain(1, 1);
+        x.dig(2);
+        x.run(15);
+        x.addTrain(1, 1);
+        x.dig(1);
+        x.run(3);
+        trainIs(x, 0, 3, 0, 0, 0, 0, 0);
+        trainIs(x, 1, 4, 0, 0, 0, 0, 2);
+        trainIs(x, 2, 1, 1, 1, 1, 0, 0);
+        x.run(1);
+        trainIs(x, 0, 3, 0, 0, 0, 4, 1);
+        trainIs(x, 1, 3, 0, 1, 0, 0, 2);
+        trainIs(x, 2, 1, 1, 0, 1, 0, 0);
+        // The reasons 4 and 5 are for trains in passing places: it goes on to the segment 2.
+        Due.same(17, "why(2)", x.why(2), 0);
+        x.run(1);
+        trainIs(x, 2, 2, 1, 1, 1, 0, 0);
+        x.run(2);
+        trainIs(x, 2, 2, 1, 0, 1, 3, 1);
     }
 
     private static void whyWithRest() {
