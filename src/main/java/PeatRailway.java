@@ -37,7 +37,6 @@ public final class PeatRailway {
     private static final int HASH_TICKS = 50;
 
     private static final int EXPONENT_BIAS = 1023, MANTISSA_BITS = 52, MOST_HALVINGS = 1100;
-    private static final double MANTISSA_RANGE = 4503599627370496.0;
 
     private final InputText text;
     private final State now;
@@ -439,7 +438,8 @@ public final class PeatRailway {
             mantissa = mantissa * 2.0;
             exponent--;
         }
-        return (exponent << MANTISSA_BITS) + (long) ((mantissa - 1.0) * MANTISSA_RANGE);
+        double fraction = (mantissa - 1.0) * (1L << MANTISSA_BITS);
+        return (exponent << MANTISSA_BITS) + (long) fraction;
     }
 
     /** A segment of the track, and the mat under it. */

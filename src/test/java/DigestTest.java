@@ -51,7 +51,7 @@ public final class DigestTest {
     }
 
     /** The digest as the document writes it, by what the other methods tell. */
-    private static long digestOf(PeatRailway x, String text) {
+    static long digestOf(PeatRailway x, String text) {
         long hash = 2069;
         for (int what = 0; what <= 7; what++) {
             hash = 31 * hash + x.count(what);

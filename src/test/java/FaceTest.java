@@ -23,6 +23,10 @@ public final class FaceTest {
         classAndFields();
         methods();
         classesInside();
+        staticFields(PeatRailway.class);
+        for (Class<?> inside : PeatRailway.class.getDeclaredClasses()) {
+            staticFields(inside);
+        }
         Due.end();
     }
 
@@ -75,6 +79,18 @@ public final class FaceTest {
             Due.holds(1, inside.getName() + " is static and neither public nor protected",
                     Modifier.isStatic(modifiers) && !Modifier.isPublic(modifiers)
                     && !Modifier.isProtected(modifiers));
+        }
+    }
+
+    /** Rule 5 of LANGUAGE.md; no double is among the constants that it lists. */
+    private static void staticFields(Class<?> owner) {
+        for (Field field : owner.getDeclaredFields()) {
+            if (Modifier.isStatic(field.getModifiers())) {
+                String type = field.getType().getSimpleName();
+                Due.holds(0, field.getName() + " is a constant: " + type,
+                        Modifier.isFinal(field.getModifiers()) && (type.matches(
+                        "int|long|boolean|char|String|(int|long|char|byte)\\[\\]")));
+            }
         }
     }
 

@@ -38,12 +38,12 @@ public final class HistoryTest {
             x.run(5);
             int states = x.count(5);
             // The history is full: count(5), and so the digest, stays as it is by a change.
-            long[] before = seen(x);
+            long[] before = Twin.state(x);
             back[change] = doChange(x, change);
             Due.holds(12, "the change " + change + " answers no error: " + back[change],
                     back[change] >= 0);
             Due.same(12, "undo() of the change " + change, x.undo(), states - 1);
-            same(12, "behind undo of the change " + change, seen(x), before);
+            Twin.sameState(12, "behind undo of the change " + change, Twin.state(x), before);
             if (change == 3) {
                 Due.same(12, "undo brings no text back", x.clear(), 0);
             }
@@ -63,44 +63,6 @@ public final class HistoryTest {
         }
     }
 
-    /** All that is told of the state, but the history, the images and the text. */
-    private static long[] seen(PeatRailway x) {
-        long[] all = new long[256];
-        int n = 0;
-        for (int what = 0; what < 8; what++) {
-            if (what != 5 && what != 6) {
-                all[n++] = x.count(what);
-            }
-        }
-        for (int i = 0; i < 3; i++) {
-            all[n++] = x.setting(i);
-        }
-        for (int i = 0; i < 5; i++) {
-            all[n++] = x.account(i);
-        }
-        for (int s = 0; s < 12; s++) {
-            for (int what = 0; what < 7; what++) {
-                all[n++] = x.segment(s, what);
-            }
-        }
-        for (int t = 0; t < 4; t++) {
-            for (int what = 0; what < 10; what++) {
-                all[n++] = x.train(t, what);
-            }
-            all[n++] = x.why(t);
-        }
-        for (int what = 0; what < 4; what++) {
-            all[n++] = x.ifRun(200, what);
-        }
-        return all;
-    }
-
-    private static void same(int promise, String text, long[] got, long[] want) {
-        for (int i = 0; i < got.length; i++) {
-            Due.same(promise, text + ", value " + i, got[i], want[i]);
-        }
-    }
-
     private static void onlyChangesAreRecorded() {
         PeatRailway x = new PeatRailway();
         x.type('0');
@@ -117,7 +79,7 @@ public final class HistoryTest {
         x.keep(0);
         x.back(1);
         x.back(2);
-        seen(x);
+        Twin.state(x);
         x.ticksFor(1);
         x.bestRule(1);
         x.bestLoad(0, 1);
@@ -157,7 +119,7 @@ public final class HistoryTest {
         x.dig(100);
         x.addTrain(1, 20);
         x.run(9);
-        long[] nine = seen(x);
+        long[] nine = Twin.state(x);
         x.run(100);
         x.run(100);
         Due.type(x, "9,9,9");
@@ -168,12 +130,12 @@ public final class HistoryTest {
             x.undo();
         }
         Due.same(12, "count(5)", x.count(5), 3);
-        same(12, "behind five undos", seen(x), nine);
+        Twin.sameState(12, "behind five undos", Twin.state(x), nine);
         // A change behind undo is recorded in the place of those taken back.
         x.dig(1);
         Due.same(12, "count(5)", x.count(5), 4);
         Due.same(12, "undo()", x.undo(), 3);
-        same(12, "behind undo", seen(x), nine);
+        Twin.sameState(12, "behind undo", Twin.state(x), nine);
     }
 
     private static void keepErrors() {
@@ -207,10 +169,10 @@ public final class HistoryTest {
     private static void imagesStay() {
         PeatRailway x = busy();
         Due.same(13, "keep(0)", x.keep(0), 47);
-        long[] first = seen(x);
+        long[] first = Twin.state(x);
         x.run(13);
         Due.same(13, "keep(1)", x.keep(1), 60);
-        long[] second = seen(x);
+        long[] second = Twin.state(x);
         x.run(200);
         x.dropTrain(0);
         x.dropTrain(0);
@@ -218,13 +180,13 @@ public final class HistoryTest {
         x.layTrack();
         x.set(2, 1);
         Due.same(14, "back(0)", x.back(0), 47);
-        same(14, "behind back(0)", seen(x), first);
+        Twin.sameState(14, "behind back(0)", Twin.state(x), first);
         x.run(100);
         x.addTrain(5, 5);
         Due.same(14, "back(1)", x.back(1), 60);
-        same(14, "behind back(1)", seen(x), second);
+        Twin.sameState(14, "behind back(1)", Twin.state(x), second);
         Due.same(14, "back(0) again", x.back(0), 47);
-        same(14, "behind back(0) again", seen(x), first);
+        Twin.sameState(14, "behind back(0) again", Twin.state(x), first);
         for (int i = 0; i < 8; i++) {
             x.undo();
         }
@@ -234,10 +196,10 @@ public final class HistoryTest {
         x.run(1);
         int clock = x.count(2);
         Due.same(13, "keep(0) in place of another", x.keep(0), clock);
-        long[] third = seen(x);
+        long[] third = Twin.state(x);
         x.run(7);
         Due.same(14, "back(0)", x.back(0), clock);
-        same(14, "behind back(0) of the new image", seen(x), third);
+        Twin.sameState(14, "behind back(0) of the new image", Twin.state(x), third);
     }
 
     private static void backIsAChange() {
