@@ -1,4 +1,7 @@
-/** Promises 21 to 24: what would be, and what would be best; nothing changes by asking. */
+/**
+ * Promises 21 to 24: what would be, and what would be best; nothing changes by asking. What is
+ * counted by hand of ticksFor and bestRule is in EdgesOfAnswersTest.
+ */
 public final class AheadTest {
     private static final int BAD = PeatRailway.BAD, NONE = PeatRailway.NONE;
     private static final int LEAST = Integer.MIN_VALUE, MOST = Integer.MAX_VALUE;
@@ -12,8 +15,6 @@ public final class AheadTest {
             bestLoadIsWhatRunDoes(kind);
         }
         ifRunByHand();
-        ticksForByHand();
-        bestRuleByHand();
         bestLoadByHand();
         Due.end();
     }
@@ -168,70 +169,6 @@ public final class AheadTest {
         x.run(18);
         Due.same(21, "ifRun(4, 2): waits of before do not count", x.ifRun(4, 2), 4);
         Due.same(21, "ifRun(4, 0)", x.ifRun(4, 0), 0);
-    }
-
-    /** On this track a train of one wagon needs 6 ticks to unload, then each round takes 12. */
-    private static void ticksForByHand() {
-        PeatRailway x = Due.withTrack("0,0,0");
-        x.dig(1000);
-        x.addTrain(1, 20);
-        Due.same(22, "ticksFor(1)", x.ticksFor(1), 7);
-        Due.same(22, "ticksFor(20)", x.ticksFor(20), 7);
-        Due.same(22, "ticksFor(21)", x.ticksFor(21), 19);
-        Due.same(22, "ticksFor(40)", x.ticksFor(40), 19);
-        Due.same(22, "ticksFor(41)", x.ticksFor(41), 31);
-        // The 42nd unloading is at 7 + 12 * 41 = 499: 840; the next one would be at 511.
-        Due.same(22, "ticksFor(840)", x.ticksFor(840), 499);
-        Due.same(22, "ticksFor(841)", x.ticksFor(841), NONE);
-        x.run(10);
-        Due.same(22, "ticksFor(840) of 10 later", x.ticksFor(840), NONE);
-        Due.same(22, "ticksFor(820) of 10 later", x.ticksFor(820), 9 + 12 * 40);
-        Due.same(22, "what was delivered before does not count", x.ticksFor(20), 9);
-        PeatRailway y = Due.withTrack("0,0,0");
-        y.dig(1000);
-        y.addTrain(1, 20);
-        y.run(11);
-        // The 42nd unloading of those to come is at 8 + 12 * 41 = 500.
-        Due.same(22, "ticksFor(840) by the last tick", y.ticksFor(840), 500);
-        Due.same(22, "ticksFor(841)", y.ticksFor(841), NONE);
-    }
-
-    /** As in TickTest: the one comes down to the bog or the other goes up from it first. */
-    private static void bestRuleByHand() {
-        PeatRailway x = Due.withTrack("0,0,0");
-        x.set(2, 2);
-        x.addTrain(1, 1);
-        x.addTrain(1, 20);
-        x.dig(1);
-        x.run(8);
-        x.dig(20);
-        x.run(2);
-        // Up first: the train from the bog waits a tick, and its 20 are delivered a tick later.
-        Due.same(23, "bestRule(5)", x.bestRule(5), 1);
-        Due.same(23, "bestRule(4)", x.bestRule(4), 0);
-        Due.same(23, "bestRule(200)", x.bestRule(200), 0);
-        Due.same(23, "the rule is still", x.setting(2), 2);
-        ruleTwoIsBest();
-    }
-
-    /** Train 0 goes up to the works, from which the trains 1 and 2 want to come down. */
-    private static void ruleTwoIsBest() {
-        PeatRailway x = Due.withTrack("0,0,0");
-        x.set(2, 2);
-        x.addTrain(1, 1);
-        x.dig(6);
-        x.run(7);
-        x.addTrain(1, 2);
-        x.addTrain(2, 2);
-        x.run(9);
-        int[] due = {1, 1, 3};
-        for (int rule = 0; rule < 3; rule++) {
-            x.keep(0);
-            x.set(2, rule);
-            Due.same(23, "bestRule(11) under rule " + rule, x.bestRule(11), 2);
-            Due.same(23, "run(11) by rule " + rule, x.run(11), due[rule]);
-            x.back(0);
-        }
     }
 
     private static void bestLoadByHand() {

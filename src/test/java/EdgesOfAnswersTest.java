@@ -16,6 +16,7 @@ public final class EdgesOfAnswersTest {
         ticksForUpTo500();
         ticksForTheGreatestAmount();
         bestRuleIsTheLowest();
+        bestRuleIsTheLastOne();
         bestLoadIsTheLeast();
         bestLoadAtTheEnds();
         meanSinkingIsNotRounded();
@@ -223,6 +224,8 @@ public final class EdgesOfAnswersTest {
         Due.same(21, "ifRun(20, 1)", x.ifRun(20, 1), 0);
         Due.same(21, "ifRun(20, 3)", x.ifRun(20, 3), 95);
         Due.same(21, "ifRun(1, 2) without trains", x.ifRun(1, 2), 0);
+        x.run(20);
+        Due.same(21, "ifRun(1, 3), all is risen", x.ifRun(1, 3), 0);
         PeatRailway y = Due.withTrack("0,0,0");
         y.dig(20);
         y.addTrain(1, 20);
@@ -286,7 +289,10 @@ public final class EdgesOfAnswersTest {
         Due.same(22, "ticksFor(1001)", x.ticksFor(1001), BAD);
     }
 
-    /** "of several the lowest one": the rules 1 and 2, or all, deliver as much. */
+    /**
+     * "of several the lowest one": at first no rule delivers anything, then 1 and 2 as much as one
+     * another, then all. Train 0 is about to come down to the bog, and train 1 to go up from it.
+     */
     private static void bestRuleIsTheLowest() {
         int[] due = {0, 0, 0, 0, 1, 0, 0};
         for (int rule = 0; rule <= 2; rule++) {
@@ -298,21 +304,42 @@ public final class EdgesOfAnswersTest {
             x.run(8);
             x.dig(20);
             x.run(2);
-            Due.holds(23, "one is about to come down, one to go up",
-                    Scene.places(x).equals("1d 0u"));
+            Due.holds(23, "the places", Scene.places(x).equals("1d 0u"));
             for (int ticks = 1; ticks <= 7; ticks++) {
                 Due.same(23, "bestRule(" + ticks + ")", x.bestRule(ticks), due[ticks - 1]);
             }
-            int[] most = new int[3];
-            for (int r = 0; r < 3; r++) {
-                x.set(2, r);
-                most[r] = x.ifRun(5, 0);
-            }
-            Due.holds(23, "the rules 1 and 2 deliver as much", most[0] == 0 && most[1] == 20
-                    && most[2] == 20);
+            Due.same(23, "bestRule(200)", x.bestRule(200), 0);
+            Due.same(23, "the rule is still", x.setting(2), rule);
+            rulesDeliver(x, 5, 0, 20, 20);
         }
         Due.same(23, "bestRule(1) of a new one", new PeatRailway().bestRule(1), 0);
         Due.same(23, "bestRule(200) of a new one", new PeatRailway().bestRule(200), 0);
+    }
+
+    /** Train 0 goes up to the works, from which the trains 1 and 2 want to come down. */
+    private static void bestRuleIsTheLastOne() {
+        PeatRailway x = Due.withTrack("0,0,0");
+        x.set(2, 2);
+        x.addTrain(1, 1);
+        x.dig(6);
+        x.run(7);
+        x.addTrain(1, 2);
+        x.addTrain(2, 2);
+        x.run(9);
+        for (int rule = 0; rule <= 2; rule++) {
+            x.set(2, rule);
+            Due.same(23, "bestRule(11) under rule " + rule, x.bestRule(11), 2);
+        }
+        rulesDeliver(x, 11, 1, 1, 3);
+    }
+
+    private static void rulesDeliver(PeatRailway x, int ticks, int... due) {
+        for (int rule = 0; rule <= 2; rule++) {
+            x.set(2, rule);
+            Due.same(23, "ifRun() by rule " + rule, x.ifRun(ticks, 0), due[rule]);
+            Due.same(23, "run() by rule " + rule, x.run(ticks), due[rule]);
+            x.undo();
+        }
     }
 
     /** "of several the least one" */

@@ -97,7 +97,22 @@ public final class EdgesOfHistoryTest {
                 PeatRailway x = maker.get();
                 call.made.applyAsLong(x);
                 Twin.alike(call.promise, "behind " + call.name, x, maker.get());
+                imageStaysBehind(call, maker);
             }
+        }
+        imageStaysBehind(new Call(2, "type()", x -> x.type('0')), EdgesOfHistoryTest::ready);
+        imageStaysBehind(new Call(3, "clear()", x -> x.clear()), Scene::full);
+    }
+
+    /** No other call is made between, as the digest makes many of them itself. */
+    private static void imageStaysBehind(Call call, Supplier<PeatRailway> maker) {
+        for (int image = 0; image < 2; image++) {
+            PeatRailway x = maker.get();
+            PeatRailway y = maker.get();
+            call.made.applyAsLong(x);
+            Due.same(14, "back(" + image + ") behind " + call.name, x.back(image), y.back(image));
+            Twin.sameState(14, "behind " + call.name + " and back(" + image + ")", Twin.state(x),
+                    Twin.state(y));
         }
     }
 

@@ -250,9 +250,8 @@ public final class EdgesOfTextTest {
 
     /** "the text is empty, and the images keep nothing"; the track is as if it had been laid. */
     private static void newObjectHasAnEmptyText() {
-        PeatRailway laid = Due.withTrack("0p,4,4,2p,4,4,0p");
-        Due.same(1, "layTrack() is a change", laid.undo(), 0);
-        Twin.alike(1, "of a new one", new PeatRailway(), laid);
+        Twin.sameState(1, "of a new one", Twin.state(new PeatRailway()),
+                Twin.state(Due.withTrack("0p,4,4,2p,4,4,0p")));
         Due.same(1, "clear() of a new one", new PeatRailway().clear(), 0);
         Due.same(1, "count(6) of a new one", new PeatRailway().count(6), 0);
         Due.same(1, "undo() of a new one", new PeatRailway().undo(), STATE);

@@ -1,4 +1,7 @@
-/** "Trains and peat." and "A tick." of the description at their edges, but for the reasons 2 to 5. */
+/**
+ * "Trains and peat." and "A tick." of the description at their edges; the reasons 2 to 5 are in
+ * EdgesOfReasonsTest.
+ */
 public final class EdgesOfTickTest {
     public static void main(String[] args) {
         weights();
@@ -44,13 +47,30 @@ public final class EdgesOfTickTest {
         }
     }
 
-    /** "A new train is empty, in segment 0, goes down, and its rest is 0." */
+    /** "A new train is empty, in segment 0, goes down, and its rest is 0."; it has not waited. */
     private static void aNewTrain() {
         PeatRailway x = Scene.some();
-        Due.same(8, "addTrain(6, 20)", x.addTrain(6, 20), 2);
+        isNew(x, 2);
+        // Train 1 has waited in the latest tick, by the reason 3.
+        Due.same(16, "train(1, 6)", x.train(1, 6), 3);
+        x.dropTrain(2);
+        x.dropTrain(1);
+        isNew(x, 1);
+        x.clear();
+        Due.type(x, "0,0,0");
+        x.run(3);
+        x.layTrack();
+        isNew(x, 0);
+        x.undo();
+        x.undo();
+        isNew(x, 2);
+    }
+
+    private static void isNew(PeatRailway x, int number) {
+        Due.same(8, "addTrain(6, 20)", x.addTrain(6, 20), number);
         int[] due = {6, 20, 0, 0, 0, 0, 0, 0, 0, 16};
         for (int what = 0; what < due.length; what++) {
-            Due.same(8, "train(2, " + what + ")", x.train(2, what), due[what]);
+            Due.same(8, "train(" + number + ", " + what + ")", x.train(number, what), due[what]);
         }
     }
 
@@ -68,9 +88,11 @@ public final class EdgesOfTickTest {
             tickLeaves(x, 2, true, 1);
             tickLeaves(x, 2, true, 0);
             Due.same(11, "nothing is delivered before", x.account(3), 0);
+            Due.same(16, "how often it has unloaded", x.train(0, 8), 0);
             for (int rest = wagons; rest >= 0; rest--) {
                 tickLeaves(x, 2, false, rest);
                 Due.same(11, "delivered", x.account(3), wagons);
+                Due.same(16, "how often it has unloaded", x.train(0, 8), 1);
             }
             tickLeaves(x, 1, false, 1);
             tickLeaves(x, 1, false, 0);
@@ -300,13 +322,15 @@ public final class EdgesOfTickTest {
 
     /**
      * Train 1 stands in the segment 1 with a rest of 0, about to go down to the bog, which has the
-     * sinking and gets 1 deeper in each tick by train 0.
+     * sinking and gets 1 deeper in each tick by train 0; by 1 more while train 1 has 3 wagons and
+     * is there, too.
      */
-    private static PeatRailway aboutToComeDown(int sinking) {
-        PeatRailway x = Scene.sunkBy(sinking - 10);
-        x.dig(1);
-        x.addTrain(1, 1);
-        x.run(10);
+    private static PeatRailway aboutToComeDown(int sinking, int wagons) {
+        int ticks = 8 + 2 * wagons;
+        PeatRailway x = Scene.sunkBy(sinking - ticks - (wagons == 3 ? 4 : 0));
+        x.dig(wagons);
+        x.addTrain(wagons, 1);
+        x.run(ticks);
         Due.same(11, "places", Scene.places(x).equals("0d 1d") ? 1 : 0, 1);
         Due.same(11, "rest of train 1", x.train(1, 5), 0);
         Due.same(11, "segment(0, 2)", x.segment(0, 2), sinking);
@@ -320,49 +344,54 @@ public final class EdgesOfTickTest {
             800, 899, 900
         };
         for (int sinking : sinkings) {
-            PeatRailway x = aboutToComeDown(sinking);
-            if (sinking > 10) {
-                x.set(0, sinking - 1);
-                waitsBeforeTheBog(x);
-                x.undo();
-                x.undo();
+            waitsAboveTheLimit(sinking, 1);
+            if (sinking > 18) {
+                waitsAboveTheLimit(sinking, 3);
             }
-            x.set(0, sinking);
-            comesToTheBog(x, 1 + sinking / 100);
         }
-        PeatRailway x = aboutToComeDown(901);
+        PeatRailway x = aboutToComeDown(901, 1);
         x.set(0, 900);
         waitsBeforeTheBog(x);
     }
 
+    private static void waitsAboveTheLimit(int sinking, int wagons) {
+        PeatRailway x = aboutToComeDown(sinking, wagons);
+        if (sinking > 10) {
+            x.set(0, sinking - 1);
+            waitsBeforeTheBog(x);
+            x.undo();
+            x.undo();
+        }
+        x.set(0, sinking);
+        // The sinking that counts is that of before the tick settles.
+        comesToTheBog(x, 1 + sinking / 100);
+        Due.same(11, "sinking behind the tick", x.segment(0, 2), sinking + (wagons == 3 ? 2 : 1));
+    }
+
     private static void waitsBeforeTheBog(PeatRailway x) {
-        String when = ", sinking " + x.segment(0, 2) + ", limit " + x.setting(0);
-        Due.same(17, "why(1)" + when, x.why(1), 2);
-        Due.same(19, "count(7)" + when, x.count(7), 1);
-        int waits = x.train(1, 7);
-        x.run(1);
-        Due.same(11, "train(1, 3)" + when, x.train(1, 3), 1);
-        Due.same(11, "train(1, 5)" + when, x.train(1, 5), 0);
-        Due.same(11, "train(1, 6)" + when, x.train(1, 6), 2);
-        Due.same(11, "train(1, 7)" + when, x.train(1, 7), waits + 1);
+        nextTickOfTrain1(x, 2, 1, 0);
     }
 
     private static void comesToTheBog(PeatRailway x, int rest) {
+        nextTickOfTrain1(x, 0, 0, rest);
+    }
+
+    private static void nextTickOfTrain1(PeatRailway x, int reason, int segment, int rest) {
         String when = ", sinking " + x.segment(0, 2) + ", limit " + x.setting(0);
-        Due.same(17, "why(1)" + when, x.why(1), 0);
-        Due.same(19, "count(7)" + when, x.count(7), 0);
+        Due.same(17, "why(1)" + when, x.why(1), reason);
+        Due.same(19, "count(7)" + when, x.count(7), reason == 2 ? 1 : 0);
         int waits = x.train(1, 7);
         x.run(1);
-        Due.same(11, "train(1, 3)" + when, x.train(1, 3), 0);
+        Due.same(11, "train(1, 3)" + when, x.train(1, 3), segment);
         Due.same(11, "train(1, 5)" + when, x.train(1, 5), rest);
-        Due.same(11, "train(1, 6)" + when, x.train(1, 6), 0);
-        Due.same(11, "train(1, 7)" + when, x.train(1, 7), waits);
+        Due.same(11, "train(1, 6)" + when, x.train(1, 6), reason);
+        Due.same(11, "train(1, 7)" + when, x.train(1, 7), reason == 2 ? waits + 1 : waits);
     }
 
     /** "the limit of sinking (10 to 900; at first 300)" */
     private static void limitOfTheFirstSettings() {
-        comesToTheBog(aboutToComeDown(300), 4);
-        waitsBeforeTheBog(aboutToComeDown(301));
+        comesToTheBog(aboutToComeDown(300, 1), 4);
+        waitsBeforeTheBog(aboutToComeDown(301, 1));
     }
 
     /** "A train that waits in a tick counts a wait for itself." */
