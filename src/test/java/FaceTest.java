@@ -88,8 +88,8 @@ public final class FaceTest {
             if (Modifier.isStatic(field.getModifiers())) {
                 String type = field.getType().getSimpleName();
                 Due.holds(0, field.getName() + " is a constant: " + type,
-                        Modifier.isFinal(field.getModifiers()) && (type.matches(
-                        "int|long|boolean|char|String|(int|long|char|byte)\\[\\]")));
+                        Modifier.isFinal(field.getModifiers()) && type.matches(
+                        "int|long|boolean|char|String|(int|long|char|byte)\\[\\]"));
             }
         }
     }
