@@ -1,3 +1,4 @@
+import java.util.ArrayList;
 import java.util.List;
 import java.util.function.Supplier;
 import java.util.function.ToLongFunction;
@@ -16,19 +17,8 @@ public final class EdgesOfHistoryTest {
             new Call(10, "setLoad()", x -> x.setLoad(0, 9)), new Call(11, "run()", x -> x.run(19)),
             new Call(14, "back()", x -> x.back(1)));
 
-    private static final List<Call> NO_CHANGES = List.of(
-            new Call(4, "fault()", x -> x.fault()), new Call(15, "segment()", x -> x.segment(0, 6)),
-            new Call(16, "train()", x -> x.train(0, 9)), new Call(17, "why()", x -> x.why(0)),
-            new Call(18, "account()", x -> x.account(4)), new Call(19, "count()", x -> x.count(7)),
-            new Call(20, "setting()", x -> x.setting(0)),
-            new Call(21, "ifRun()", x -> x.ifRun(200, 3)),
-            new Call(22, "ticksFor()", x -> x.ticksFor(1000)),
-            new Call(23, "bestRule()", x -> x.bestRule(200)),
-            new Call(24, "bestLoad()", x -> x.bestLoad(1, 200)),
-            new Call(25, "meanSinking()", x -> (long) x.meanSinking()),
-            new Call(26, "digest()", x -> x.digest()));
-
     public static void main(String[] args) {
+        Scene.areAsTold();
         everyChangeRecordsOneState();
         aChangeOfNothingIsRecorded();
         whatIsToldChangesNothing();
@@ -43,6 +33,35 @@ public final class EdgesOfHistoryTest {
         theImageStays();
         theStateIsEverything();
         Due.end();
+    }
+
+    /** What is told, by each of its numbers, and what is told ahead. */
+    private static List<Call> questions() {
+        List<Call> all = new ArrayList<>(List.of(new Call(4, "fault()", x -> x.fault()),
+                new Call(17, "why(0)", x -> x.why(0)), new Call(17, "why(1)", x -> x.why(1)),
+                new Call(22, "ticksFor(1)", x -> x.ticksFor(1)),
+                new Call(22, "ticksFor(1000)", x -> x.ticksFor(1000)),
+                new Call(23, "bestRule(200)", x -> x.bestRule(200)),
+                new Call(24, "bestLoad(1, 200)", x -> x.bestLoad(1, 200)),
+                new Call(25, "meanSinking()", x -> (long) x.meanSinking()),
+                new Call(26, "digest()", x -> x.digest())));
+        for (int i = 0; i < 10; i++) {
+            int what = i;
+            addQuestion(all, 15, 7, what, "segment(1, ", x -> x.segment(1, what));
+            addQuestion(all, 16, 10, what, "train(1, ", x -> x.train(1, what));
+            addQuestion(all, 18, 5, what, "account(", x -> x.account(what));
+            addQuestion(all, 19, 8, what, "count(", x -> x.count(what));
+            addQuestion(all, 20, 3, what, "setting(", x -> x.setting(what));
+            addQuestion(all, 21, 4, what, "ifRun(200, ", x -> x.ifRun(200, what));
+        }
+        return all;
+    }
+
+    private static void addQuestion(List<Call> all, int promise, int numbers, int what,
+            String name, ToLongFunction<PeatRailway> made) {
+        if (what < numbers) {
+            all.add(new Call(promise, name + what + ")", made));
+        }
     }
 
     /** Two trains, the image 1, and a text that can be laid. */
@@ -93,11 +112,12 @@ public final class EdgesOfHistoryTest {
     private static void whatIsToldChangesNothing() {
         for (Supplier<PeatRailway> maker : List.<Supplier<PeatRailway>>of(
                 EdgesOfHistoryTest::ready, Scene::full)) {
-            for (Call call : NO_CHANGES) {
+            for (Call call : questions()) {
                 PeatRailway x = maker.get();
                 call.made.applyAsLong(x);
                 Twin.alike(call.promise, "behind " + call.name, x, maker.get());
                 imageStaysBehind(call, maker);
+                textStaysBehind(call, maker);
             }
         }
         imageStaysBehind(new Call(2, "type()", x -> x.type('0')), EdgesOfHistoryTest::ready);
@@ -114,6 +134,13 @@ public final class EdgesOfHistoryTest {
             Twin.sameState(14, "behind " + call.name + " and back(" + image + ")", Twin.state(x),
                     Twin.state(y));
         }
+    }
+
+    /** As above: no other call is made between. */
+    private static void textStaysBehind(Call call, Supplier<PeatRailway> maker) {
+        PeatRailway x = maker.get();
+        call.made.applyAsLong(x);
+        Due.same(3, "clear() behind " + call.name, x.clear(), maker.get().clear());
     }
 
     /** "The state consists of everything but the text, the images and the history." */
